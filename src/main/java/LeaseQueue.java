@@ -329,7 +329,7 @@ public final class LeaseQueue {
         return item;
     }
 
-    // More tries than the queue's are possible (they can be lowered, a crash opens what was leased): those are too many, too.
+    // An item can have more tries than its queue's: these can be lowered, and a crash opens it on its last try.
     private boolean isTriedOut(int item) {
         return items.tries[item] >= queueTries[items.queue[item]];
     }
