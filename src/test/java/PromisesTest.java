@@ -196,6 +196,9 @@ public final class PromisesTest {
         LeaseQueue x = new LeaseQueue();
         x.push(1, 5, 0, 0, 49);
         pushMany(x, 0, 398);
+        x.await(1);
+        x.await(2);
+        x.await(399);
         Checks.same("the last push", 400, pushPlain(x, 3));
         Checks.throwsException("push of number 401", UnsupportedOperationException.class, () -> pushPlain(x, 0));
         Checks.throwsException("push at 400 with a key that is there", UnsupportedOperationException.class,
@@ -206,7 +209,8 @@ public final class PromisesTest {
         Checks.same("records", 400, x.total(RECORDS));
         Checks.same("the last ready item", 399, x.peek(0, 397));
         Checks.same("behind the last ready item", NONE, x.peek(0, 398));
-        doneAtOnce(x, 3, 400);
+        Checks.same("the last item waits for three", 3, x.about(400, WAITS));
+        doneAtOnce(x, 1, 1);
         Checks.throwsException("a done item is still there", UnsupportedOperationException.class,
                 () -> pushPlain(x, 0));
     }
@@ -308,6 +312,13 @@ public final class PromisesTest {
         Checks.same("another consumer", 4, x.take(0, 5, 10));
         x.done(4, 2);
         Checks.same("one less", 5, x.take(0, 4, 10));
+
+        LeaseQueue y = new LeaseQueue();
+        y.limit(0, 1);
+        y.push(0, 5, 0, 0, 0);
+        y.push(0, 1, 0, 0, 0);
+        Checks.same("the newest item", 2, y.take(0, 0, 10));
+        Checks.same("it counts", NONE, y.take(0, 0, 10));
     }
 
     private static void takeWithinRate() {
@@ -372,6 +383,9 @@ public final class PromisesTest {
         Checks.refused("takeAny, lease 1001", () -> x.takeAny(0, 1001));
         Checks.same("nothing was taken", 1, x.count(0, READY));
         Checks.same("longest lease, last consumer", 1, x.takeAny(7, 1000));
+        pushPlain(x, 0);
+        Checks.same("shortest lease", 2, x.takeAny(0, 1));
+        Checks.same("it ends", 1, x.pass(1));
     }
 
     // ---- promise 6
@@ -1098,6 +1112,10 @@ public final class PromisesTest {
         Checks.same("another queue", NONE, x.peek(1, 1));
         Checks.same("take", 4, x.take(0, 1, 5));
         Checks.same("a rate that is reached hides nothing", 2, x.peek(0, 0));
+        LeaseQueue y = new LeaseQueue();
+        pushMany(y, 2, 2);
+        Checks.same("the last of all items", 2, y.peek(2, 1));
+        Checks.same("behind the last", NONE, y.peek(2, 2));
         Checks.refused("peek, queue -1", () -> x.peek(-1, 0));
         Checks.refused("peek, queue 4", () -> x.peek(4, 0));
         Checks.refused("peek, queue 4, i -1", () -> x.peek(4, -1));
