@@ -1,9 +1,24 @@
+import java.lang.reflect.InvocationTargetException;
+import java.lang.reflect.Method;
+import java.lang.reflect.Modifier;
+import java.util.Arrays;
+import java.util.Comparator;
+import java.util.function.Consumer;
+import java.util.function.ObjIntConsumer;
+import java.util.function.Supplier;
+
 /** Counts the checks that fail and prints each of them. */
 final class Checks {
     private static int made = 0;
     private static int wrong = 0;
+    private static String sentence = "";
 
     private Checks() {
+    }
+
+    /** The document's words that the checks behind this call are about; reports begin with them. */
+    static void sentence(String words) {
+        sentence = words;
     }
 
     static void same(String what, long due, long got) {
@@ -41,15 +56,89 @@ final class Checks {
         throwsException(what, IllegalArgumentException.class, call);
     }
 
+    /** The call throws, and nothing that can be found out about the object is another one behind it. */
+    static void throwsAndChangesNothing(String what, Class<? extends RuntimeException> due,
+            Supplier<LeaseQueue> maker, Consumer<LeaseQueue> call) {
+        changesNothing(what, maker, x -> throwsException(what, due, () -> call.accept(x)));
+    }
+
+    static void refusedAndChangesNothing(String what, Supplier<LeaseQueue> maker, Consumer<LeaseQueue> call) {
+        throwsAndChangesNothing(what, IllegalArgumentException.class, maker, call);
+    }
+
+    static void changesNothing(String what, Supplier<LeaseQueue> maker, Consumer<LeaseQueue> call) {
+        sameEffect(what + " changes nothing: it", maker, call, x -> { });
+    }
+
+    /** Two new objects, alike but for one call each, cannot be told from one another. */
+    static void sameEffect(String what, Supplier<LeaseQueue> maker, Consumer<LeaseQueue> one,
+            Consumer<LeaseQueue> other) {
+        LeaseQueue x = maker.get();
+        LeaseQueue y = maker.get();
+        one.accept(x);
+        other.accept(y);
+        String got = Samples.allOf(x);
+        String due = Samples.allOf(y);
+        made++;
+        if (!got.equals(due)) {
+            report(what + " left" + System.lineSeparator() + got + "    due is" + System.lineSeparator() + due);
+        }
+    }
+
+    /** The last numbers within go through; the first ones outside, and the farthest, are refused and change nothing. */
+    static void onlyWithin(String what, int least, int most, ObjIntConsumer<LeaseQueue> call) {
+        for (int number : new int[] {least, most}) {
+            made++;
+            try {
+                call.accept(Samples.busy(), number);
+            } catch (RuntimeException e) {
+                report(what + " " + number + " threw " + e);
+            }
+        }
+        int[] outside = most == Integer.MAX_VALUE
+                ? new int[] {least - 1, Integer.MIN_VALUE}
+                : new int[] {least - 1, Integer.MIN_VALUE, most + 1, Integer.MAX_VALUE};
+        for (int number : outside) {
+            refusedAndChangesNothing(what + " " + number, Samples::busy, x -> call.accept(x, number));
+        }
+    }
+
     static void report(String line) {
         wrong++;
         if (wrong <= 50) {
-            System.out.println(line);
+            System.out.println(sentence.isEmpty() ? line : "'" + sentence + "': " + line);
         }
     }
 
     static boolean anyWrong() {
         return wrong > 0;
+    }
+
+    /** Runs every test of a class: its static methods that are not private and have no parameters. */
+    static void runAll(Class<?> tests) {
+        Method[] methods = tests.getDeclaredMethods();
+        Arrays.sort(methods, Comparator.comparing(Method::getName));
+        int run = 0;
+        for (Method method : methods) {
+            int kind = method.getModifiers();
+            if (Modifier.isStatic(kind) && !Modifier.isPrivate(kind) && method.getParameterCount() == 0) {
+                runOne(method);
+                run++;
+            }
+        }
+        isTrue("there are tests in " + tests.getName(), run > 0);
+        end();
+    }
+
+    private static void runOne(Method test) {
+        sentence = test.getName();
+        try {
+            test.invoke(null);
+        } catch (InvocationTargetException e) {
+            report(test.getName() + " ended with " + e.getCause());
+        } catch (IllegalAccessException e) {
+            report(test.getName() + " cannot be run");
+        }
     }
 
     static void end() {

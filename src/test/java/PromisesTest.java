@@ -1,32 +1,8 @@
 import static java.lang.Integer.MAX_VALUE;
 import static java.lang.Integer.MIN_VALUE;
 
-/** Each promise of the document by itself: ordinary inputs, the edges that it names, wrong inputs. */
-public final class PromisesTest {
-    private static final int NONE = LeaseQueue.NONE;
-    private static final int OPEN = 0;
-    private static final int LEASED = 1;
-    private static final int DONE = 2;
-    private static final int ASIDE = 3;
-    private static final int READY = 4;
-
-    private static final int PRIORITY = 1;
-    private static final int DUE = 2;
-    private static final int BODY = 3;
-    private static final int KEY = 4;
-    private static final int STATE = 5;
-    private static final int CONSUMER = 6;
-    private static final int UNTIL = 7;
-    private static final int TRIES = 8;
-    private static final int WAITS = 9;
-
-    private static final int TIME = 0;
-    private static final int ITEMS = 1;
-    private static final int RECORDS = 2;
-    private static final int COMPACTINGS = 3;
-    private static final int CRASHES = 4;
-    private static final int RATE_OF_QUEUE_0 = 5;
-
+/** Each promise of the document by itself, in ordinary use; its boundary cases are in the EdgesOf.. tests. */
+public final class PromisesTest implements Names {
     private PromisesTest() {
     }
 
@@ -34,25 +10,19 @@ public final class PromisesTest {
         newObject();
         pushAnswersAndKeeps();
         pushWithAKey();
-        pushRefusals();
-        pushAtFourHundred();
         awaitTells();
         awaitIsForgotten();
         takeByTheOrder();
         takeWaitsForDueAndDone();
         takeWithinLimit();
         takeWithinRate();
-        takeRefusals();
         takeAnyOfAllQueues();
-        takeAnyRefusals();
         doneOfWhatIsLeased();
         failGivesBack();
         failPutsAside();
-        failRefusals();
         extendLeases();
         chanceForWhatIsAside();
         passEndsLeases();
-        passRefusals();
         writeAndCrash();
         crashOpensLeases();
         crashKeepsTheRest();
@@ -64,7 +34,6 @@ public final class PromisesTest {
         limitOfConsumer();
         rateOfQueue();
         rateWindow();
-        rateRemembersTakesBeforeIt();
         triesOfQueue();
         loweredTriesPutAside();
         aboutAnItem();
@@ -72,22 +41,10 @@ public final class PromisesTest {
         peekInTheOrder();
         nextReadyTime();
         nextWithLeases();
-        totalRefusals();
-        throwingChangesNothing();
         Checks.end();
     }
 
     // ---- helpers
-
-    private static int pushPlain(LeaseQueue x, int queue) {
-        return x.push(queue, 5, 0, 0, 0);
-    }
-
-    private static void pushMany(LeaseQueue x, int queue, int many) {
-        for (int i = 0; i < many; i++) {
-            pushPlain(x, queue);
-        }
-    }
 
     /** One item in queue 0, tried once by consumer 0 and put aside. */
     private static LeaseQueue withOneAside() {
@@ -126,10 +83,10 @@ public final class PromisesTest {
 
         LeaseQueue y = new LeaseQueue();
         y.safe(false);
-        pushPlain(y, 0);
+        Samples.pushPlain(y, 0);
         Checks.same("crash with nothing written behind the making", 0, y.crash());
         Checks.same("records then", 0, y.total(RECORDS));
-        Checks.same("the next number then", 1, pushPlain(y, 0));
+        Checks.same("the next number then", 1, Samples.pushPlain(y, 0));
     }
 
     // ---- promise 2
@@ -178,86 +135,45 @@ public final class PromisesTest {
         Checks.same("key of an item that is aside", 1, y.push(0, 5, 0, 1, 7));
     }
 
-    private static void pushRefusals() {
-        LeaseQueue x = new LeaseQueue();
-        Checks.refused("push, queue -1", () -> x.push(-1, 0, 0, 0, 0));
-        Checks.refused("push, queue 4", () -> x.push(4, 0, 0, 0, 0));
-        Checks.refused("push, priority -1", () -> x.push(0, -1, 0, 0, 0));
-        Checks.refused("push, priority 10", () -> x.push(0, 10, 0, 0, 0));
-        Checks.refused("push, delay -1", () -> x.push(0, 0, -1, 0, 0));
-        Checks.refused("push, delay 1001", () -> x.push(0, 0, 1001, 0, 0));
-        Checks.refused("push, key -1", () -> x.push(0, 0, 0, 0, -1));
-        Checks.refused("push, key least", () -> x.push(0, 0, 0, 0, MIN_VALUE));
-        Checks.refused("push, queue most", () -> x.push(MAX_VALUE, 0, 0, 0, 0));
-        Checks.same("nothing was pushed", 0, x.total(ITEMS));
-    }
-
-    private static void pushAtFourHundred() {
-        LeaseQueue x = new LeaseQueue();
-        x.push(1, 5, 0, 0, 49);
-        pushMany(x, 0, 398);
-        x.await(1);
-        x.await(2);
-        x.await(399);
-        Checks.same("the last push", 400, pushPlain(x, 3));
-        Checks.throwsException("push of number 401", UnsupportedOperationException.class, () -> pushPlain(x, 0));
-        Checks.throwsException("push at 400 with a key that is there", UnsupportedOperationException.class,
-                () -> x.push(1, 5, 0, 0, 49));
-        Checks.refused("wrong push at 400", () -> x.push(4, 0, 0, 0, 0));
-        Checks.refused("wrong key at 400", () -> x.push(0, 0, 0, 0, -1));
-        Checks.same("items", 400, x.total(ITEMS));
-        Checks.same("records", 400, x.total(RECORDS));
-        Checks.same("the last ready item", 399, x.peek(0, 397));
-        Checks.same("behind the last ready item", NONE, x.peek(0, 398));
-        Checks.same("the last item waits for three", 3, x.about(400, WAITS));
-        doneAtOnce(x, 1, 1);
-        Checks.throwsException("a done item is still there", UnsupportedOperationException.class,
-                () -> pushPlain(x, 0));
-    }
-
     // ---- promise 3
 
     private static void awaitTells() {
         LeaseQueue x = new LeaseQueue();
-        pushMany(x, 0, 4);
-        Checks.refused("await 0", () -> x.await(0));
-        Checks.refused("await 5", () -> x.await(5));
-        Checks.refused("await -1", () -> x.await(-1));
+        Samples.pushMany(x, 0, 4);
         Checks.same("await of one", 1, x.await(2));
         Checks.same("await of it again", 1, x.await(2));
         Checks.same("await of two", 2, x.await(1));
         Checks.same("await of three", 3, x.await(4));
         Checks.throwsException("await of four", IllegalStateException.class, () -> x.await(3));
-        Checks.refused("await of a missing one at three", () -> x.await(9));
         Checks.same("await of the third again", 3, x.await(4));
         Checks.same("await of the first again", 3, x.await(2));
-        Checks.same("push behind them", 5, pushPlain(x, 1));
+        Checks.same("push behind them", 5, Samples.pushPlain(x, 1));
         Checks.same("it waits for three", 3, x.about(5, WAITS));
         Checks.same("await starts anew", 1, x.await(3));
         doneAtOnce(x, 0, 1);
         Checks.same("it waits for two", 2, x.about(5, WAITS));
         Checks.same("a done item counts in await", 2, x.await(1));
-        Checks.same("push behind it", 6, pushPlain(x, 1));
+        Checks.same("push behind it", 6, Samples.pushPlain(x, 1));
         Checks.same("it is not waited for", 1, x.about(6, WAITS));
     }
 
     private static void awaitIsForgotten() {
         LeaseQueue x = new LeaseQueue();
-        pushMany(x, 0, 3);
+        Samples.pushMany(x, 0, 3);
         x.await(1);
         x.await(2);
         x.crash();
         Checks.same("await behind a crash", 1, x.await(3));
         x.crash();
-        Checks.same("push behind a crash", 4, pushPlain(x, 0));
+        Checks.same("push behind a crash", 4, Samples.pushPlain(x, 0));
         Checks.same("it waits for none", 0, x.about(4, WAITS));
         x.await(1);
         x.crash();
-        Checks.same("push behind a crash", 5, pushPlain(x, 1));
+        Checks.same("push behind a crash", 5, Samples.pushPlain(x, 1));
         Checks.same("it is ready", 5, x.take(1, 0, 1));
         x.await(1);
         Checks.refused("a push that throws", () -> x.push(9, 0, 0, 0, 0));
-        Checks.same("push", 6, pushPlain(x, 0));
+        Checks.same("push", 6, Samples.pushPlain(x, 0));
         Checks.same("what await told stood", 1, x.about(6, WAITS));
     }
 
@@ -303,7 +219,7 @@ public final class PromisesTest {
 
     private static void takeWithinLimit() {
         LeaseQueue x = new LeaseQueue();
-        pushMany(x, 0, 5);
+        Samples.pushMany(x, 0, 5);
         Checks.same("one", 1, x.take(0, 4, 10));
         Checks.same("two", 2, x.take(0, 4, 10));
         Checks.same("three", 3, x.take(0, 4, 10));
@@ -323,7 +239,7 @@ public final class PromisesTest {
 
     private static void takeWithinRate() {
         LeaseQueue x = new LeaseQueue();
-        pushMany(x, 0, 3);
+        Samples.pushMany(x, 0, 3);
         x.rate(0, 1, 4);
         Checks.same("first", 1, x.take(0, 0, 100));
         Checks.same("reached", NONE, x.take(0, 1, 100));
@@ -332,21 +248,6 @@ public final class PromisesTest {
         x.pass(1);
         Checks.same("let go", 2, x.take(0, 1, 100));
         Checks.same("no take, no record", 5, x.total(RECORDS));
-    }
-
-    private static void takeRefusals() {
-        LeaseQueue x = new LeaseQueue();
-        pushPlain(x, 0);
-        Checks.refused("take, queue -1", () -> x.take(-1, 0, 1));
-        Checks.refused("take, queue 4", () -> x.take(4, 0, 1));
-        Checks.refused("take, consumer -1", () -> x.take(0, -1, 1));
-        Checks.refused("take, consumer 8", () -> x.take(0, 8, 1));
-        Checks.refused("take, lease 0", () -> x.take(0, 0, 0));
-        Checks.refused("take, lease 1001", () -> x.take(0, 0, 1001));
-        Checks.refused("take, lease -1", () -> x.take(0, 0, -1));
-        Checks.same("nothing was taken", OPEN, x.about(1, STATE));
-        Checks.same("the longest lease", 1, x.take(0, 0, 1000));
-        Checks.same("until", 1000, x.about(1, UNTIL));
     }
 
     // ---- promise 5
@@ -374,20 +275,6 @@ public final class PromisesTest {
         Checks.same("tries", 1, x.about(5, TRIES));
     }
 
-    private static void takeAnyRefusals() {
-        LeaseQueue x = new LeaseQueue();
-        pushPlain(x, 0);
-        Checks.refused("takeAny, consumer -1", () -> x.takeAny(-1, 1));
-        Checks.refused("takeAny, consumer 8", () -> x.takeAny(8, 1));
-        Checks.refused("takeAny, lease 0", () -> x.takeAny(0, 0));
-        Checks.refused("takeAny, lease 1001", () -> x.takeAny(0, 1001));
-        Checks.same("nothing was taken", 1, x.count(0, READY));
-        Checks.same("longest lease, last consumer", 1, x.takeAny(7, 1000));
-        pushPlain(x, 0);
-        Checks.same("shortest lease", 2, x.takeAny(0, 1));
-        Checks.same("it ends", 1, x.pass(1));
-    }
-
     // ---- promise 6
 
     private static void doneOfWhatIsLeased() {
@@ -405,22 +292,17 @@ public final class PromisesTest {
         Checks.same("tries", 1, x.about(1, TRIES));
         Checks.same("due", 1, x.about(1, DUE));
         Checks.isFalse("done again", x.done(0, 1));
-        pushPlain(x, 0);
+        Samples.pushPlain(x, 0);
         x.take(0, 0, 2);
         x.pass(2);
         Checks.isFalse("done behind the lease", x.done(0, 2));
-        Checks.refused("done, consumer -1", () -> x.done(-1, 1));
-        Checks.refused("done, consumer 8", () -> x.done(8, 1));
-        Checks.refused("done, item 0", () -> x.done(0, 0));
-        Checks.refused("done, item 3", () -> x.done(0, 3));
-        Checks.refused("done, item -1", () -> x.done(0, -1));
     }
 
     // ---- promise 7
 
     private static void failGivesBack() {
         LeaseQueue x = new LeaseQueue();
-        pushPlain(x, 0);
+        Samples.pushPlain(x, 0);
         Checks.isFalse("fail of an open item", x.fail(0, 1, 5));
         Checks.same("due", 0, x.about(1, DUE));
         x.take(0, 0, 10);
@@ -461,26 +343,11 @@ public final class PromisesTest {
         Checks.isFalse("done of what is aside", x.done(0, 1));
     }
 
-    private static void failRefusals() {
-        LeaseQueue x = new LeaseQueue();
-        pushPlain(x, 0);
-        x.take(0, 0, 10);
-        Checks.refused("fail, consumer -1", () -> x.fail(-1, 1, 0));
-        Checks.refused("fail, consumer 8", () -> x.fail(8, 1, 0));
-        Checks.refused("fail, item 0", () -> x.fail(0, 0, 0));
-        Checks.refused("fail, item 2", () -> x.fail(0, 2, 0));
-        Checks.refused("fail, delay -1", () -> x.fail(0, 1, -1));
-        Checks.refused("fail, delay 1001", () -> x.fail(0, 1, 1001));
-        Checks.same("it is still leased", LEASED, x.about(1, STATE));
-        Checks.isTrue("the longest delay", x.fail(0, 1, 1000));
-        Checks.same("due", 1000, x.about(1, DUE));
-    }
-
     // ---- promise 8
 
     private static void extendLeases() {
         LeaseQueue x = new LeaseQueue();
-        pushPlain(x, 0);
+        Samples.pushPlain(x, 0);
         Checks.isFalse("extend of an open item", x.extend(0, 1, 5));
         x.take(0, 0, 4);
         x.pass(3);
@@ -499,12 +366,6 @@ public final class PromisesTest {
         Checks.same("the lease ends", 1, x.pass(1));
         Checks.isFalse("extend behind the lease", x.extend(0, 1, 5));
         Checks.same("until", NONE, x.about(1, UNTIL));
-        Checks.refused("extend, consumer -1", () -> x.extend(-1, 1, 1));
-        Checks.refused("extend, consumer 8", () -> x.extend(8, 1, 1));
-        Checks.refused("extend, item 0", () -> x.extend(0, 0, 1));
-        Checks.refused("extend, item 2", () -> x.extend(0, 2, 1));
-        Checks.refused("extend, lease 0", () -> x.extend(0, 1, 0));
-        Checks.refused("extend, lease 1001", () -> x.extend(0, 1, 1001));
     }
 
     // ---- promise 9
@@ -523,12 +384,10 @@ public final class PromisesTest {
         Checks.same("chance with none aside", 0, x.chance(0));
         Checks.same("records", 4, x.total(RECORDS));
         Checks.same("it is ready", 1, x.take(0, 0, 1));
-        Checks.refused("chance, queue -1", () -> x.chance(-1));
-        Checks.refused("chance, queue 4", () -> x.chance(4));
 
         LeaseQueue y = new LeaseQueue();
         y.tries(2, 1);
-        pushMany(y, 2, 4);
+        Samples.pushMany(y, 2, 4);
         y.take(2, 0, 1);
         y.take(2, 0, 1);
         y.take(2, 1, 9);
@@ -567,16 +426,6 @@ public final class PromisesTest {
         Checks.same("its consumer may take again", 1, x.take(0, 0, 1));
         Checks.same("far behind the end", 1, x.pass(2000));
         Checks.same("time", 2006, x.total(TIME));
-    }
-
-    private static void passRefusals() {
-        LeaseQueue x = new LeaseQueue();
-        Checks.refused("pass -1", () -> x.pass(-1));
-        Checks.refused("pass 2001", () -> x.pass(2001));
-        Checks.refused("pass most", () -> x.pass(MAX_VALUE));
-        Checks.same("time", 0, x.total(TIME));
-        Checks.same("pass 2000", 0, x.pass(2000));
-        Checks.same("time", 2000, x.total(TIME));
     }
 
     // ---- promises 11 and 12
@@ -647,7 +496,7 @@ public final class PromisesTest {
 
         LeaseQueue y = new LeaseQueue();
         y.tries(1, 1);
-        pushPlain(y, 1);
+        Samples.pushPlain(y, 1);
         y.take(1, 0, 9);
         y.crash();
         Checks.same("a take is not written by itself", 0, y.about(1, TRIES));
@@ -658,7 +507,7 @@ public final class PromisesTest {
     private static void crashKeepsTheRest() {
         LeaseQueue x = new LeaseQueue();
         x.safe(false);
-        pushMany(x, 0, 3);
+        Samples.pushMany(x, 0, 3);
         x.write();
         x.pass(9);
         x.limit(0, 1);
@@ -680,7 +529,7 @@ public final class PromisesTest {
 
     private static void crashGivesNumbersAgain() {
         LeaseQueue x = new LeaseQueue();
-        pushPlain(x, 0);
+        Samples.pushPlain(x, 0);
         x.safe(false);
         x.await(1);
         x.push(1, 1, 4, 21, 9);
@@ -706,13 +555,13 @@ public final class PromisesTest {
     private static void safeWritesBehindCalls() {
         LeaseQueue x = new LeaseQueue();
         Checks.isTrue("safe at first", x.safe(true));
-        pushPlain(x, 0);
+        Samples.pushPlain(x, 0);
         Checks.same("push is written", 1, x.crash());
         x.take(0, 0, 9);
         Checks.isTrue("done", x.done(0, 1));
         x.crash();
         Checks.same("done is written", DONE, x.about(1, STATE));
-        pushPlain(x, 0);
+        Samples.pushPlain(x, 0);
         x.take(0, 0, 9);
         Checks.isTrue("fail", x.fail(0, 2, 5));
         x.crash();
@@ -763,7 +612,7 @@ public final class PromisesTest {
         x.take(0, 0, 9);
         x.done(0, 2);
         x.chance(0);
-        pushPlain(x, 0);
+        Samples.pushPlain(x, 0);
         x.take(1, 0, 1);
         Checks.same("pass", 1, x.pass(1));
         Checks.same("nothing of these is written", 3, x.crash());
@@ -777,7 +626,7 @@ public final class PromisesTest {
     private static void logIsCounted() {
         LeaseQueue x = new LeaseQueue();
         x.safe(false);
-        pushMany(x, 0, 2);
+        Samples.pushMany(x, 0, 2);
         Checks.same("pushes", 2, x.total(RECORDS));
         x.take(0, 0, 5);
         Checks.same("take", 3, x.total(RECORDS));
@@ -805,7 +654,7 @@ public final class PromisesTest {
         LeaseQueue x = new LeaseQueue();
         x.safe(false);
         x.tries(0, 20);
-        pushPlain(x, 0);
+        Samples.pushPlain(x, 0);
         while (x.total(RECORDS) + 2 <= records) {
             x.chance(0);
             x.take(0, 0, 5);
@@ -851,7 +700,7 @@ public final class PromisesTest {
         LeaseQueue x = new LeaseQueue();
         x.limit(0, 20);
         x.safe(false);
-        pushMany(x, 0, 21);
+        Samples.pushMany(x, 0, 21);
         for (int i = 0; i < 20; i++) {
             x.take(0, 0, 900);
         }
@@ -874,7 +723,7 @@ public final class PromisesTest {
 
     private static void limitOfConsumer() {
         LeaseQueue x = new LeaseQueue();
-        pushMany(x, 0, 30);
+        Samples.pushMany(x, 0, 30);
         for (int consumer = 0; consumer < 8; consumer++) {
             Checks.same("limit at first", 3, x.limit(consumer, consumer));
             Checks.same("limit behind that", consumer, x.limit(consumer, 3));
@@ -890,18 +739,13 @@ public final class PromisesTest {
         Checks.same("lowered", 20, x.limit(2, 1));
         x.done(2, 1);
         Checks.same("take with more than the limit", NONE, x.take(0, 2, 5));
-        Checks.refused("limit, consumer -1", () -> x.limit(-1, 1));
-        Checks.refused("limit, consumer 8", () -> x.limit(8, 1));
-        Checks.refused("limit -1", () -> x.limit(2, -1));
-        Checks.refused("limit 21", () -> x.limit(2, 21));
-        Checks.same("nothing was changed", 1, x.limit(2, 1));
     }
 
     // ---- promise 15
 
     private static void rateOfQueue() {
         LeaseQueue x = new LeaseQueue();
-        pushMany(x, 1, 20);
+        Samples.pushMany(x, 1, 20);
         x.limit(0, 20);
         x.rate(1, 2, 1000);
         x.take(1, 0, 1000);
@@ -910,14 +754,6 @@ public final class PromisesTest {
         Checks.same("the rate is reached", 1000, x.total(6));
         Checks.same("take", NONE, x.take(1, 0, 1000));
         Checks.same("another queue's rate", 0, x.total(5));
-        Checks.refused("rate, queue -1", () -> x.rate(-1, 1, 1));
-        Checks.refused("rate, queue 4", () -> x.rate(4, 1, 1));
-        Checks.refused("rate, n -1", () -> x.rate(1, -1, 1));
-        Checks.refused("rate, n 101", () -> x.rate(1, 101, 1));
-        Checks.refused("rate, w 0", () -> x.rate(1, 1, 0));
-        Checks.refused("rate, w 1001", () -> x.rate(1, 1, 1001));
-        Checks.refused("no rate, but w 0", () -> x.rate(1, 0, 0));
-        Checks.same("nothing was changed", 1000, x.total(6));
         x.rate(1, 3, 1000);
         Checks.same("a higher rate", 0, x.total(6));
         Checks.same("take", 3, x.take(1, 0, 1000));
@@ -933,7 +769,7 @@ public final class PromisesTest {
 
     private static void rateWindow() {
         LeaseQueue x = new LeaseQueue();
-        pushMany(x, 3, 10);
+        Samples.pushMany(x, 3, 10);
         x.rate(3, 2, 10);
         Checks.same("take at 0", 1, x.take(3, 0, 500));
         x.pass(4);
@@ -955,37 +791,6 @@ public final class PromisesTest {
         Checks.same("take at 111", 5, x.take(3, 1, 500));
     }
 
-    /** More takes than the highest rate asks for, some of them at other times. */
-    private static void rateRemembersTakesBeforeIt() {
-        LeaseQueue x = new LeaseQueue();
-        x.limit(0, 20);
-        pushPlain(x, 0);
-        x.tries(0, 20);
-        for (int i = 0; i < 130; i++) {
-            Checks.same("take", 1, x.take(0, 0, 1000));
-            x.fail(0, 1, 0);
-            if (x.about(1, STATE) == ASIDE) {
-                x.chance(0);
-            }
-            if (i < 60) {
-                x.pass(1);
-            }
-        }
-        // Takes at 0, 1, .. 59 and seventy at 60: the 100th latest was at 30.
-        x.rate(0, 100, 31);
-        Checks.same("100 in 31", 1, x.total(5));
-        x.rate(0, 100, 30);
-        Checks.same("100 in 30", 0, x.total(5));
-        x.rate(0, 99, 30);
-        Checks.same("99 in 30", 1, x.total(5));
-        x.rate(0, 70, 9);
-        Checks.same("70 in 9", 9, x.total(5));
-        x.rate(0, 71, 9);
-        Checks.same("71 in 9", 8, x.total(5));
-        x.rate(0, 1, 1000);
-        Checks.same("1 in 1000", 1000, x.total(5));
-    }
-
     // ---- promise 16
 
     private static void triesOfQueue() {
@@ -994,13 +799,9 @@ public final class PromisesTest {
             Checks.same("tries at first", 3, x.tries(queue, queue + 1));
             Checks.same("tries behind that", queue + 1, x.tries(queue, 3));
         }
-        Checks.refused("tries, queue -1", () -> x.tries(-1, 1));
-        Checks.refused("tries, queue 4", () -> x.tries(4, 1));
-        Checks.refused("tries 0", () -> x.tries(0, 0));
-        Checks.refused("tries 21", () -> x.tries(0, 21));
-        Checks.same("nothing was changed", 3, x.tries(0, 20));
+        Checks.same("raised", 3, x.tries(0, 20));
         Checks.same("the most", 20, x.tries(0, 20));
-        pushPlain(x, 0);
+        Samples.pushPlain(x, 0);
         for (int i = 1; i <= 20; i++) {
             Checks.same("take", 1, x.take(0, 0, 1));
             Checks.same("tries", i, x.about(1, TRIES));
@@ -1011,7 +812,7 @@ public final class PromisesTest {
 
     private static void loweredTriesPutAside() {
         LeaseQueue x = new LeaseQueue();
-        pushMany(x, 0, 2);
+        Samples.pushMany(x, 0, 2);
         x.take(0, 0, 1);
         x.pass(1);
         x.take(0, 0, 5);
@@ -1032,7 +833,7 @@ public final class PromisesTest {
     private static void aboutAnItem() {
         LeaseQueue x = new LeaseQueue();
         x.pass(3);
-        pushPlain(x, 1);
+        Samples.pushPlain(x, 1);
         x.await(1);
         x.push(2, 7, 4, -15, 6);
         int[] open = {2, 7, 7, -15, 6, OPEN, NONE, NONE, 0, 1};
@@ -1046,13 +847,6 @@ public final class PromisesTest {
         for (int what = 0; what <= 9; what++) {
             Checks.same("about(2, " + what + ")", leased[what], x.about(2, what));
         }
-        Checks.refused("about, item 0", () -> x.about(0, 0));
-        Checks.refused("about, item 3", () -> x.about(3, 0));
-        Checks.refused("about, item -1", () -> x.about(-1, 0));
-        Checks.refused("about, item 401", () -> x.about(401, 0));
-        Checks.refused("about, item most", () -> x.about(MAX_VALUE, 0));
-        Checks.refused("about, what -1", () -> x.about(1, -1));
-        Checks.refused("about, what 10", () -> x.about(1, 10));
     }
 
     // ---- promise 18
@@ -1060,11 +854,11 @@ public final class PromisesTest {
     private static void countOfStates() {
         LeaseQueue x = new LeaseQueue();
         x.tries(0, 1);
-        pushMany(x, 0, 6);
+        Samples.pushMany(x, 0, 6);
         x.push(0, 5, 1, 0, 0);
         x.await(6);
-        pushPlain(x, 0);
-        pushMany(x, 1, 2);
+        Samples.pushPlain(x, 0);
+        Samples.pushMany(x, 1, 2);
         doneAtOnce(x, 0, 1);
         x.take(0, 0, 50);
         x.take(0, 0, 50);
@@ -1080,10 +874,6 @@ public final class PromisesTest {
         Checks.same("another queue", 2, x.count(1, OPEN));
         Checks.same("another queue", 2, x.count(1, READY));
         Checks.same("an empty queue", 0, x.count(3, OPEN));
-        Checks.refused("count, queue -1", () -> x.count(-1, 0));
-        Checks.refused("count, queue 4", () -> x.count(4, 0));
-        Checks.refused("count, state -1", () -> x.count(0, -1));
-        Checks.refused("count, state 5", () -> x.count(0, 5));
     }
 
     // ---- promise 19
@@ -1113,12 +903,9 @@ public final class PromisesTest {
         Checks.same("take", 4, x.take(0, 1, 5));
         Checks.same("a rate that is reached hides nothing", 2, x.peek(0, 0));
         LeaseQueue y = new LeaseQueue();
-        pushMany(y, 2, 2);
+        Samples.pushMany(y, 2, 2);
         Checks.same("the last of all items", 2, y.peek(2, 1));
         Checks.same("behind the last", NONE, y.peek(2, 2));
-        Checks.refused("peek, queue -1", () -> x.peek(-1, 0));
-        Checks.refused("peek, queue 4", () -> x.peek(4, 0));
-        Checks.refused("peek, queue 4, i -1", () -> x.peek(4, -1));
     }
 
     // ---- promise 20
@@ -1139,13 +926,11 @@ public final class PromisesTest {
         x.rate(0, 1, 1000);
         doneAtOnce(x, 0, 1);
         Checks.same("a rate that is reached hides nothing", 8, x.next(0));
-        Checks.refused("next, queue -1", () -> x.next(-1));
-        Checks.refused("next, queue 4", () -> x.next(4));
 
         LeaseQueue y = new LeaseQueue();
-        pushPlain(y, 0);
+        Samples.pushPlain(y, 0);
         y.await(1);
-        pushPlain(y, 1);
+        Samples.pushPlain(y, 1);
         Checks.same("what waits for an open item", NONE, y.next(1));
         y.take(0, 0, 5);
         Checks.same("what waits for a leased item", NONE, y.next(1));
@@ -1157,7 +942,7 @@ public final class PromisesTest {
     private static void nextWithLeases() {
         LeaseQueue x = new LeaseQueue();
         x.tries(0, 2);
-        pushPlain(x, 0);
+        Samples.pushPlain(x, 0);
         x.pass(3);
         x.take(0, 0, 10);
         Checks.same("when the lease ends", 13, x.next(0));
@@ -1168,7 +953,7 @@ public final class PromisesTest {
 
         LeaseQueue y = new LeaseQueue();
         y.tries(0, 2);
-        pushPlain(y, 0);
+        Samples.pushPlain(y, 0);
         y.take(0, 0, 1);
         y.pass(1);
         y.take(0, 0, 7);
@@ -1185,35 +970,5 @@ public final class PromisesTest {
         Checks.same("another chance", 21, y.next(0));
     }
 
-    // ---- promise 21 (its answers are checked all over this file)
-
-    private static void totalRefusals() {
-        LeaseQueue x = new LeaseQueue();
-        Checks.refused("total(-1)", () -> x.total(-1));
-        Checks.refused("total(9)", () -> x.total(9));
-        Checks.refused("total(most)", () -> x.total(MAX_VALUE));
-        Checks.refused("total(least)", () -> x.total(MIN_VALUE));
-        for (int queue = 0; queue < 4; queue++) {
-            pushPlain(x, queue);
-            x.rate(queue, 1, 10 + queue);
-            x.take(queue, queue, 1);
-            Checks.same("rate of queue " + queue, 10 + queue, x.total(5 + queue));
-        }
-    }
-
-    // ---- all calls
-
-    private static void throwingChangesNothing() {
-        LeaseQueue x = new LeaseQueue();
-        pushPlain(x, 0);
-        x.take(0, 0, 9);
-        Checks.refused("push", () -> x.push(0, 0, 0, 0, -1));
-        Checks.refused("done", () -> x.done(0, 2));
-        Checks.refused("fail", () -> x.fail(0, 2, 0));
-        Checks.refused("chance", () -> x.chance(-1));
-        Checks.refused("pass", () -> x.pass(-1));
-        Checks.same("records", 2, x.total(RECORDS));
-        x.crash();
-        Checks.same("a call that throws does not write", 0, x.about(1, TRIES));
-    }
+    // ---- promise 21: its answers are checked all over this file
 }
