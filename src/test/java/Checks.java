@@ -1,8 +1,10 @@
 import java.lang.reflect.InvocationTargetException;
 import java.lang.reflect.Method;
 import java.lang.reflect.Modifier;
+import java.util.ArrayList;
 import java.util.Arrays;
 import java.util.Comparator;
+import java.util.List;
 import java.util.function.Consumer;
 import java.util.function.ObjIntConsumer;
 import java.util.function.Supplier;
@@ -12,6 +14,7 @@ final class Checks {
     private static int made = 0;
     private static int wrong = 0;
     private static String sentence = "";
+    private static final List<String> quoted = new ArrayList<>();
 
     private Checks() {
     }
@@ -19,6 +22,18 @@ final class Checks {
     /** The document's words that the checks behind this call are about; reports begin with them. */
     static void sentence(String words) {
         sentence = words;
+        quoted.add(words);
+    }
+
+    /** The tests that were run quoted the text sentence by sentence, and left nothing of it out. */
+    static void allWasQuoted(String what, String text) {
+        String rest = text;
+        for (String words : quoted) {
+            rest = rest.replace(words, "");
+        }
+        sentence = what;
+        isFalse("empty", text.isEmpty());
+        isTrue("a test for each sentence (there is none for '" + rest.strip() + "')", rest.isBlank());
     }
 
     static void same(String what, long due, long got) {
@@ -114,8 +129,13 @@ final class Checks {
         return wrong > 0;
     }
 
-    /** Runs every test of a class: its static methods that are not private and have no parameters. */
     static void runAll(Class<?> tests) {
+        runTests(tests);
+        end();
+    }
+
+    /** Runs every test of a class: its static methods that are not private and have no parameters. */
+    static void runTests(Class<?> tests) {
         Method[] methods = tests.getDeclaredMethods();
         Arrays.sort(methods, Comparator.comparing(Method::getName));
         int run = 0;
@@ -127,7 +147,6 @@ final class Checks {
             }
         }
         isTrue("there are tests in " + tests.getName(), run > 0);
-        end();
     }
 
     private static void runOne(Method test) {

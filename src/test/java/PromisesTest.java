@@ -1,50 +1,22 @@
 import static java.lang.Integer.MAX_VALUE;
 import static java.lang.Integer.MIN_VALUE;
 
+import java.util.List;
+import java.util.stream.Collectors;
+
 /** Each promise of the document by itself, in ordinary use; its boundary cases are in the EdgesOf.. tests. */
 public final class PromisesTest implements Names {
     private PromisesTest() {
     }
 
     public static void main(String[] args) {
-        newObject();
-        pushAnswersAndKeeps();
-        pushWithAKey();
-        awaitTells();
-        awaitIsForgotten();
-        takeByTheOrder();
-        takeWaitsForDueAndDone();
-        takeWithinLimit();
-        takeWithinRate();
-        takeAnyOfAllQueues();
-        doneOfWhatIsLeased();
-        failGivesBack();
-        failPutsAside();
-        extendLeases();
-        chanceForWhatIsAside();
-        passEndsLeases();
-        writeAndCrash();
-        crashOpensLeases();
-        crashKeepsTheRest();
-        crashGivesNumbersAgain();
-        safeWritesBehindCalls();
-        logIsCounted();
-        logIsCompacted();
-        logIsNotCompactedTooEarly();
-        limitOfConsumer();
-        rateOfQueue();
-        rateWindow();
-        triesOfQueue();
-        loweredTriesPutAside();
-        aboutAnItem();
-        countOfStates();
-        peekInTheOrder();
-        nextReadyTime();
-        nextWithLeases();
+        Checks.runTests(PromisesTest.class);
+        List<String> promises = Document.headings().stream().filter(heading -> heading.startsWith("Promise "))
+                .collect(Collectors.toList());
+        Checks.allWasQuoted("Promises", String.join(" ", promises));
+        Checks.same("promises", 21, promises.size());
         Checks.end();
     }
-
-    // ---- helpers
 
     /** One item in queue 0, tried once by consumer 0 and put aside. */
     private static LeaseQueue withOneAside() {
@@ -62,9 +34,8 @@ public final class PromisesTest implements Names {
         Checks.isTrue("done of item " + item, x.done(7, item));
     }
 
-    // ---- promise 1
-
-    private static void newObject() {
+    static void newObject() {
+        Checks.sentence("Promise 1: A new object");
         LeaseQueue x = new LeaseQueue();
         Checks.same("NONE", -1, NONE);
         for (int what = 0; what <= 8; what++) {
@@ -89,9 +60,8 @@ public final class PromisesTest implements Names {
         Checks.same("the next number then", 1, Samples.pushPlain(y, 0));
     }
 
-    // ---- promise 2
-
-    private static void pushAnswersAndKeeps() {
+    static void pushAnswersAndKeeps() {
+        Checks.sentence("Promise 2: push");
         LeaseQueue x = new LeaseQueue();
         x.pass(100);
         Checks.same("first push", 1, x.push(0, 0, 0, MIN_VALUE, 0));
@@ -106,7 +76,8 @@ public final class PromisesTest implements Names {
         Checks.same("items", 2, x.total(ITEMS));
     }
 
-    private static void pushWithAKey() {
+    static void pushWithAKey() {
+        Checks.sentence("Promise 2: push");
         LeaseQueue x = new LeaseQueue();
         x.push(0, 5, 0, 1, 7);
         x.await(1);
@@ -135,9 +106,8 @@ public final class PromisesTest implements Names {
         Checks.same("key of an item that is aside", 1, y.push(0, 5, 0, 1, 7));
     }
 
-    // ---- promise 3
-
-    private static void awaitTells() {
+    static void awaitTells() {
+        Checks.sentence("Promise 3: await");
         LeaseQueue x = new LeaseQueue();
         Samples.pushMany(x, 0, 4);
         Checks.same("await of one", 1, x.await(2));
@@ -157,7 +127,8 @@ public final class PromisesTest implements Names {
         Checks.same("it is not waited for", 1, x.about(6, WAITS));
     }
 
-    private static void awaitIsForgotten() {
+    static void awaitIsForgotten() {
+        Checks.sentence("Promise 3: await");
         LeaseQueue x = new LeaseQueue();
         Samples.pushMany(x, 0, 3);
         x.await(1);
@@ -177,9 +148,8 @@ public final class PromisesTest implements Names {
         Checks.same("what await told stood", 1, x.about(6, WAITS));
     }
 
-    // ---- promise 4
-
-    private static void takeByTheOrder() {
+    static void takeByTheOrder() {
+        Checks.sentence("Promise 4: take");
         LeaseQueue x = new LeaseQueue();
         x.limit(0, 20);
         x.push(0, 9, 0, 0, 0);
@@ -203,7 +173,8 @@ public final class PromisesTest implements Names {
         Checks.same("the other queue's", 6, x.take(1, 7, 1));
     }
 
-    private static void takeWaitsForDueAndDone() {
+    static void takeWaitsForDueAndDone() {
+        Checks.sentence("Promise 4: take");
         LeaseQueue x = new LeaseQueue();
         x.push(0, 5, 3, 0, 0);
         x.await(1);
@@ -217,7 +188,8 @@ public final class PromisesTest implements Names {
         Checks.same("what waits for a done one", 2, x.take(1, 1, 1));
     }
 
-    private static void takeWithinLimit() {
+    static void takeWithinLimit() {
+        Checks.sentence("Promise 4: take");
         LeaseQueue x = new LeaseQueue();
         Samples.pushMany(x, 0, 5);
         Checks.same("one", 1, x.take(0, 4, 10));
@@ -237,7 +209,8 @@ public final class PromisesTest implements Names {
         Checks.same("it counts", NONE, y.take(0, 0, 10));
     }
 
-    private static void takeWithinRate() {
+    static void takeWithinRate() {
+        Checks.sentence("Promise 4: take");
         LeaseQueue x = new LeaseQueue();
         Samples.pushMany(x, 0, 3);
         x.rate(0, 1, 4);
@@ -250,9 +223,8 @@ public final class PromisesTest implements Names {
         Checks.same("no take, no record", 5, x.total(RECORDS));
     }
 
-    // ---- promise 5
-
-    private static void takeAnyOfAllQueues() {
+    static void takeAnyOfAllQueues() {
+        Checks.sentence("Promise 5: takeAny");
         LeaseQueue x = new LeaseQueue();
         x.limit(0, 20);
         x.push(3, 4, 0, 0, 0);
@@ -275,9 +247,8 @@ public final class PromisesTest implements Names {
         Checks.same("tries", 1, x.about(5, TRIES));
     }
 
-    // ---- promise 6
-
-    private static void doneOfWhatIsLeased() {
+    static void doneOfWhatIsLeased() {
+        Checks.sentence("Promise 6: done");
         LeaseQueue x = new LeaseQueue();
         x.push(0, 5, 1, 0, 0);
         x.pass(4);
@@ -298,9 +269,8 @@ public final class PromisesTest implements Names {
         Checks.isFalse("done behind the lease", x.done(0, 2));
     }
 
-    // ---- promise 7
-
-    private static void failGivesBack() {
+    static void failGivesBack() {
+        Checks.sentence("Promise 7: fail");
         LeaseQueue x = new LeaseQueue();
         Samples.pushPlain(x, 0);
         Checks.isFalse("fail of an open item", x.fail(0, 1, 5));
@@ -323,7 +293,8 @@ public final class PromisesTest implements Names {
         Checks.same("tries", 2, x.about(1, TRIES));
     }
 
-    private static void failPutsAside() {
+    static void failPutsAside() {
+        Checks.sentence("Promise 7: fail");
         LeaseQueue x = new LeaseQueue();
         x.push(0, 5, 2, 0, 0);
         x.pass(2);
@@ -343,9 +314,8 @@ public final class PromisesTest implements Names {
         Checks.isFalse("done of what is aside", x.done(0, 1));
     }
 
-    // ---- promise 8
-
-    private static void extendLeases() {
+    static void extendLeases() {
+        Checks.sentence("Promise 8: extend");
         LeaseQueue x = new LeaseQueue();
         Samples.pushPlain(x, 0);
         Checks.isFalse("extend of an open item", x.extend(0, 1, 5));
@@ -368,9 +338,8 @@ public final class PromisesTest implements Names {
         Checks.same("until", NONE, x.about(1, UNTIL));
     }
 
-    // ---- promise 9
-
-    private static void chanceForWhatIsAside() {
+    static void chanceForWhatIsAside() {
+        Checks.sentence("Promise 9: chance");
         LeaseQueue x = withOneAside();
         Checks.same("chance of another queue", 0, x.chance(1));
         Checks.same("state", ASIDE, x.about(1, STATE));
@@ -397,9 +366,8 @@ public final class PromisesTest implements Names {
         Checks.same("a record for each", 4 + 3 + 2 + 2, y.total(RECORDS));
     }
 
-    // ---- promise 10
-
-    private static void passEndsLeases() {
+    static void passEndsLeases() {
+        Checks.sentence("Promise 10: pass");
         LeaseQueue x = new LeaseQueue();
         x.push(0, 5, 1, 0, 0);
         x.push(1, 5, 0, 0, 0);
@@ -428,9 +396,8 @@ public final class PromisesTest implements Names {
         Checks.same("time", 2006, x.total(TIME));
     }
 
-    // ---- promises 11 and 12
-
-    private static void writeAndCrash() {
+    static void writeAndCrash() {
+        Checks.sentence("Promise 12: crash");
         LeaseQueue x = new LeaseQueue();
         x.safe(false);
         Checks.same("write of nothing", 0, x.write());
@@ -472,7 +439,8 @@ public final class PromisesTest implements Names {
         Checks.same("what it waits for is done", 0, x.about(3, WAITS));
     }
 
-    private static void crashOpensLeases() {
+    static void crashOpensLeases() {
+        Checks.sentence("Promise 12: crash");
         LeaseQueue x = new LeaseQueue();
         x.tries(0, 1);
         x.push(0, 5, 2, 0, 0);
@@ -504,7 +472,8 @@ public final class PromisesTest implements Names {
         Checks.same("the consumer has none", 1, y.take(1, 0, 9));
     }
 
-    private static void crashKeepsTheRest() {
+    static void crashKeepsTheRest() {
+        Checks.sentence("Promise 12: crash");
         LeaseQueue x = new LeaseQueue();
         x.safe(false);
         Samples.pushMany(x, 0, 3);
@@ -527,7 +496,8 @@ public final class PromisesTest implements Names {
         Checks.isTrue("safe stays on", x.safe(true));
     }
 
-    private static void crashGivesNumbersAgain() {
+    static void crashGivesNumbersAgain() {
+        Checks.sentence("Promise 12: crash");
         LeaseQueue x = new LeaseQueue();
         Samples.pushPlain(x, 0);
         x.safe(false);
@@ -550,9 +520,8 @@ public final class PromisesTest implements Names {
         Checks.same("waits for none", 0, x.about(2, WAITS));
     }
 
-    // ---- promise 13
-
-    private static void safeWritesBehindCalls() {
+    static void safeWritesBehindCalls() {
+        Checks.sentence("Promise 13: safe");
         LeaseQueue x = new LeaseQueue();
         Checks.isTrue("safe at first", x.safe(true));
         Samples.pushPlain(x, 0);
@@ -621,9 +590,8 @@ public final class PromisesTest implements Names {
         Checks.same("tries", 0, x.about(3, TRIES));
     }
 
-    // ---- the log (promises 11, 12, 21)
-
-    private static void logIsCounted() {
+    static void logIsCounted() {
+        Checks.sentence("Promise 11: write");
         LeaseQueue x = new LeaseQueue();
         x.safe(false);
         Samples.pushMany(x, 0, 2);
@@ -667,7 +635,8 @@ public final class PromisesTest implements Names {
         return x;
     }
 
-    private static void logIsCompacted() {
+    static void logIsCompacted() {
+        Checks.sentence("Promise 11: write");
         LeaseQueue x = withRecords(41);
         Checks.same("not before it is written", 0, x.total(COMPACTINGS));
         Checks.same("write of more than 40", 1, x.write());
@@ -696,7 +665,8 @@ public final class PromisesTest implements Names {
         Checks.same("compactings", 1, z.total(COMPACTINGS));
     }
 
-    private static void logIsNotCompactedTooEarly() {
+    static void logIsNotCompactedTooEarly() {
+        Checks.sentence("Promise 11: write");
         LeaseQueue x = new LeaseQueue();
         x.limit(0, 20);
         x.safe(false);
@@ -719,9 +689,8 @@ public final class PromisesTest implements Names {
         Checks.same("compactings", 2, x.total(COMPACTINGS));
     }
 
-    // ---- promise 14
-
-    private static void limitOfConsumer() {
+    static void limitOfConsumer() {
+        Checks.sentence("Promise 14: limit");
         LeaseQueue x = new LeaseQueue();
         Samples.pushMany(x, 0, 30);
         for (int consumer = 0; consumer < 8; consumer++) {
@@ -741,9 +710,8 @@ public final class PromisesTest implements Names {
         Checks.same("take with more than the limit", NONE, x.take(0, 2, 5));
     }
 
-    // ---- promise 15
-
-    private static void rateOfQueue() {
+    static void rateOfQueue() {
+        Checks.sentence("Promise 15: rate");
         LeaseQueue x = new LeaseQueue();
         Samples.pushMany(x, 1, 20);
         x.limit(0, 20);
@@ -767,7 +735,8 @@ public final class PromisesTest implements Names {
         Checks.same("reached by what was taken without one", 5, x.total(6));
     }
 
-    private static void rateWindow() {
+    static void rateWindow() {
+        Checks.sentence("Promise 15: rate");
         LeaseQueue x = new LeaseQueue();
         Samples.pushMany(x, 3, 10);
         x.rate(3, 2, 10);
@@ -791,9 +760,8 @@ public final class PromisesTest implements Names {
         Checks.same("take at 111", 5, x.take(3, 1, 500));
     }
 
-    // ---- promise 16
-
-    private static void triesOfQueue() {
+    static void triesOfQueue() {
+        Checks.sentence("Promise 16: tries");
         LeaseQueue x = new LeaseQueue();
         for (int queue = 0; queue < 4; queue++) {
             Checks.same("tries at first", 3, x.tries(queue, queue + 1));
@@ -810,7 +778,8 @@ public final class PromisesTest implements Names {
         Checks.same("behind 20 tries", ASIDE, x.about(1, STATE));
     }
 
-    private static void loweredTriesPutAside() {
+    static void loweredTriesPutAside() {
+        Checks.sentence("Promise 16: tries");
         LeaseQueue x = new LeaseQueue();
         Samples.pushMany(x, 0, 2);
         x.take(0, 0, 1);
@@ -828,9 +797,8 @@ public final class PromisesTest implements Names {
         Checks.same("aside stays", ASIDE, x.about(1, STATE));
     }
 
-    // ---- promise 17
-
-    private static void aboutAnItem() {
+    static void aboutAnItem() {
+        Checks.sentence("Promise 17: about");
         LeaseQueue x = new LeaseQueue();
         x.pass(3);
         Samples.pushPlain(x, 1);
@@ -849,9 +817,8 @@ public final class PromisesTest implements Names {
         }
     }
 
-    // ---- promise 18
-
-    private static void countOfStates() {
+    static void countOfStates() {
+        Checks.sentence("Promise 18: count");
         LeaseQueue x = new LeaseQueue();
         x.tries(0, 1);
         Samples.pushMany(x, 0, 6);
@@ -876,9 +843,8 @@ public final class PromisesTest implements Names {
         Checks.same("an empty queue", 0, x.count(3, OPEN));
     }
 
-    // ---- promise 19
-
-    private static void peekInTheOrder() {
+    static void peekInTheOrder() {
+        Checks.sentence("Promise 19: peek");
         LeaseQueue x = new LeaseQueue();
         x.push(0, 5, 2, 0, 0);
         x.push(0, 5, 1, 0, 0);
@@ -908,9 +874,8 @@ public final class PromisesTest implements Names {
         Checks.same("behind the last", NONE, y.peek(2, 2));
     }
 
-    // ---- promise 20
-
-    private static void nextReadyTime() {
+    static void nextReadyTime() {
+        Checks.sentence("Promise 20: next");
         LeaseQueue x = new LeaseQueue();
         x.push(0, 5, 8, 0, 0);
         x.push(0, 9, 6, 0, 0);
@@ -939,7 +904,8 @@ public final class PromisesTest implements Names {
         Checks.same("only done items", NONE, y.next(0));
     }
 
-    private static void nextWithLeases() {
+    static void nextWithLeases() {
+        Checks.sentence("Promise 20: next");
         LeaseQueue x = new LeaseQueue();
         x.tries(0, 2);
         Samples.pushPlain(x, 0);
@@ -970,5 +936,30 @@ public final class PromisesTest implements Names {
         Checks.same("another chance", 21, y.next(0));
     }
 
-    // ---- promise 21: its answers are checked all over this file
+    static void totalTellsOfAll() {
+        Checks.sentence("Promise 21: total");
+        LeaseQueue x = new LeaseQueue();
+        x.pass(30);
+        Samples.pushMany(x, 1, 21);
+        x.rate(1, 1, 8);
+        x.take(1, 0, 900);
+        x.pass(3);
+        int[] due = {33, 21, 22, 0, 0, 0, 5, 0, 0};
+        for (int what = 0; what <= 8; what++) {
+            Checks.same("total(" + what + ")", due[what], x.total(what));
+        }
+        x.rate(1, 0, 1);
+        x.limit(0, 20);
+        for (int i = 0; i < 19; i++) {
+            x.take(1, 0, 900);
+        }
+        x.rate(3, 1, 1000);
+        Checks.isTrue("done, by which 42 records become 20", x.done(0, 1));
+        Checks.isTrue("done, by which they are 21", x.done(0, 2));
+        Checks.same("crash", 21, x.crash());
+        int[] dueThen = {33, 21, 21, 1, 1, 0, 0, 0, 0};
+        for (int what = 0; what <= 8; what++) {
+            Checks.same("total(" + what + ")", dueThen[what], x.total(what));
+        }
+    }
 }
